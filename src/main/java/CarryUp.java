@@ -410,7 +410,7 @@ public final class CarryUp {
 
         private void readThing() {
             note(THING);
-            note(Integer.numberOfTrailingZeros(things(1)));
+            note(letter());
             note(number(1, 99));
             note(number(0, 99));
             boolean part = takes("part");
@@ -450,8 +450,8 @@ public final class CarryUp {
             note(number(0, CALLS - 1));
             note(number(1, 20));
             note(number(0, 200));
-            note(takes("none") ? 0 : things(THINGS));
-            note(takes("or") ? things(THINGS) : 0);
+            note(takes("none") ? 0 : things());
+            note(takes("or") ? things() : 0);
         }
 
         private void note(int number) {
@@ -484,13 +484,26 @@ public final class CarryUp {
             return number;
         }
 
-        /** A word of 1 to most unlike THINGS, by bits. */
-        private int things(int most) {
+        /** A word of unlike THINGS' letters, by bits. */
+        private int things() {
             int bits = text.things(from, to);
-            if (!within(Integer.bitCount(bits), 1, most)) faulty = true;
+            if (bits == 0) faulty = true;
             if (faulty) return 0;
             step();
             return bits;
+        }
+
+        /** A THING's letter. */
+        private int letter() {
+            int bits = text.things(from, to);
+            for (int t = 0; t < THINGS && !faulty; t++) {
+                if (bits == 1 << t) {
+                    step();
+                    return t;
+                }
+            }
+            faulty = true;
+            return 0;
         }
     }
 
@@ -516,8 +529,8 @@ public final class CarryUp {
         /** What is left in a BAG that DOES, or NONE. */
         int left(int bag, int tools) {
             if (!isDone(bag, all, one)) return NONE;
-            int used = (all | Integer.lowestOneBit(one & bag)) & ~tools;
-            return bag & ~used;
+            int least = one & bag & -(one & bag);
+            return bag & ~((all | least) & ~tools);
         }
 
         int wanted() {
