@@ -6,6 +6,7 @@ public final class NowTest {
         byWhatHeFound();
         goingOnlyWhereItPays();
         late();
+        lookTakesMinutes();
         equals();
         fourLeft();
         refused();
@@ -75,6 +76,14 @@ public final class NowTest {
         value("late costs as much", x, 0, 500, 0, 5, 0, 1, CarryUp.NONE);
         Check.tell(x, "call 2 3 0 100 9 19 0;sort 2 1 0 none");
         value("late costs less", x, 0, 500, 0, 5, 1, 1, 2);
+    }
+
+    private static void lookTakesMinutes() {
+        // 1 takes so long that 0 is shut behind it
+        CarryUp x = Check.told("call 0 1 0 500 10 1 30;sort 0 1 0 a;sort 0 1 0 b;call 1 1 0 520 8 9 0;sort 1 1 100 none");
+        value("there as 1 shuts", x, 0, 480, 1, 3, 25, 2, 0);
+        Check.tell(x, "call 0 1 0 500 10 1 31;sort 0 1 0 a;sort 0 1 0 b");
+        value("1 has shut, if 0 was looked at", x, 0, 480, 1, 3, 17, 2, 0);
     }
 
     private static void equals() {

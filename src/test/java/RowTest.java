@@ -63,6 +63,8 @@ public final class RowTest {
         mean("the last minute", x, 0, 1, 1, 7, 1);
         Check.due("beyond midnight", x.end(0, 0x061, 3), 1649);
         Check.due("late, then home", x.end(0, 0x60, 2), 1459);
+        Check.tell(x, "begin 0");
+        Check.due("home at midnight", x.end(0, 6, 1), 0);
     }
 
     private static void partsAreUsedUp() {
@@ -144,6 +146,11 @@ public final class RowTest {
         Check.due("by likely", x.know(0x601, 3, 0, 0), 6);
         Check.due("by likely", x.know(0x601, 3, 0, 1), 7);
         Check.due("known for once only", x.mean(6, 0x01, 2, 1), 7);
+        Check.tell(x, "call 5 1 0 1439 6 0 0;sort 5 1 0 abc;sort 5 1 0 none;call 4 1 0 0 9 9 9;sort 4 1 9 none");
+        Check.due("the last call: it can not be done or needs nothing", x.know(5, 1, 5, 0), 0);
+        Check.tell(x, "load 1;call 5 1 0 1439 6 0 0;sort 5 1 0 a;sort 5 2 0 b");
+        Check.due("the last call", x.know(0x56, 2, 5, 0), 2);
+        Check.due("a call to which he is late", x.know(0x45, 2, 4, 0), 0);
     }
 
     private static void both() {
