@@ -1,3 +1,5 @@
+import java.util.function.LongSupplier;
+
 /** What the tests share: telling texts, and counting answers that are not as due. */
 final class Check {
     private static int wrong = 0;
@@ -46,6 +48,17 @@ final class Check {
         if (got == want) return;
         wrong++;
         System.out.println(what + " answered " + got + ", due is " + want);
+    }
+
+    /** A call that is refused: its answer, and that all that can be asked is as it was ahead of it. */
+    static void refused(CarryUp x, String what, LongSupplier call, long want) {
+        String ahead = State.of(x);
+        due(what, call.getAsLong(), want);
+        yes("nothing has changed behind " + what, State.of(x).equals(ahead));
+    }
+
+    static void yes(String what, boolean holds) {
+        due(what, holds ? 1 : 0, 1);
     }
 
     /** Ends the test: exit code 1 if an answer was not as due. */
