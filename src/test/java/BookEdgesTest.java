@@ -24,6 +24,7 @@ public final class BookEdgesTest {
         theSeedComesRound();
         theSeedByLikely();
         aDayOfSix();
+        aDayByHome();
         runIsLateToTheMinute();
         runAtItsLeastAndItsMost();
         runRefused();
@@ -319,6 +320,14 @@ public final class BookEdgesTest {
             for (int what = 0; what < 4; what++) Check.due("day of six, bag " + bag, x.run(7, bag, 0x543210, 6, what), due[what]);
         }
         for (int what = 0; what < 4; what++) Check.due("home six times", x.run(7, 77, 0x666666, 6, what), new int[] {1000, 480, 0, 77}[what]);
+    }
+
+    private static void aDayByHome() {
+        CarryUp x = Check.told("call 0 1 0 1439 5 1 0;sort 0 1 0 a;call 1 1 0 1439 6 1 0;sort 1 1 0 a");
+        int[][] due = {{0x10, 2, 1004, 490, 1, 6}, {0x160, 3, 1011, 510, 3, 6}, {0x610, 3, 1004, 500, 1, 7}, {0x106, 3, 1004, 490, 1, 6}};
+        for (int[] d : due) {
+            for (int what = 0; what < 4; what++) Check.due("by home " + Integer.toHexString(d[0]) + " " + what, x.run(9, 7, d[0], d[1], what), d[what + 2]);
+        }
     }
 
     private static void runIsLateToTheMinute() {

@@ -10,6 +10,8 @@ public final class NowEdgesTest {
         theFirstAndTheLastMinute();
         shutsToTheMinute();
         waitsTillItOpens();
+        lateOnHisWay();
+        nextByItself();
         toEndBringsAsMuch();
         theLeastOfEquals();
         partsAreUsedUp();
@@ -109,6 +111,23 @@ public final class NowEdgesTest {
             CarryUp y = Check.told("call 0 1 " + opens + " 501 20 9 0;sort 0 1 0 none;call 1 1 0 500 7 5 0;sort 1 1 12 none");
             now("1 too long, 0 opens at " + opens, y, 0, 480, 0, 3, opens <= 500 ? 27 : 20, 1, 0);
         }
+    }
+
+    /** By way of the place of 1, which has shut, he is in time for 0: it costs AGAIN, and he is not there twice. */
+    private static void lateOnHisWay() {
+        for (int again = 19; again <= 21; again++) {
+            CarryUp x = Check.told("way 0 1 100;way 0 2 4;way 2 1 6;call 0 1 0 510 20 9 0;sort 0 3 0 none;call 1 2 0 400 99 " + again + " 0;sort 1 7 0 none");
+            now("late, again for " + again, x, 0, 500, 0, 3, again < 20 ? 1 : 0, 1, again < 20 ? 1 : CarryUp.NONE);
+            now("late for both", x, 0, 501, 0, 3, 0, 1, CarryUp.NONE);
+            now("straight", x, 0, 410, 0, 3, 20, 1, 0);
+        }
+    }
+
+    private static void nextByItself() {
+        CarryUp x = sixEasyCalls();
+        Check.due("next, none asked ahead", x.next(0, 0, 0, 60), 2);
+        Check.due("next, another one asked ahead", x.next(0, 0, 0, 32), 5);
+        Check.due("next of none", x.next(0, 0, 0, 0), CarryUp.NONE);
     }
 
     // ---- to go or to end

@@ -298,6 +298,10 @@ public final class RowEdgesTest {
         Check.tell(x, "call 0 1 0 1439 1 1 0;sort 0 1 200 a;sort 0 1 0 b");
         Check.due("200 minutes", x.end(1, 0, 1), 690);
         Check.due("none of a", x.end(2, 0, 1), 490);
+        Check.tell(x, "call 0 1 0 1439 1 1 99;sort 0 1 7 a;sort 0 1 8 b");
+        Check.due("a look that cannot be is no end", x.end(3, 0, 1), 498);
+        Check.due("a look that can be is one", x.end(1, 0, 1), 589);
+        Check.tell(x, "call 0 1 0 1439 1 1 0;sort 0 1 200 a;sort 0 1 0 b");
         // if 0 takes long, he is late for 1 and does not stay there
         Check.tell(x, "call 1 1 0 500 1 1 99;sort 1 1 200 none");
         Check.due("the short one is the latest in the end", x.end(3, 0x10, 2), 690);
@@ -311,6 +315,10 @@ public final class RowEdgesTest {
         Check.tell(x, "begin 1239");
         Check.due("the first in the last minute, late for all others", x.end(0, 0x43210, 5), 1239 + 200 + 200 + 4 * 200);
         Check.due("at home at the end", x.end(0, 0x643210, 6), 1239 + 200 + 200 + 4 * 200 + 200);
+        Check.tell(x, "begin 0");
+        Check.due("the first minute", x.end(0, 0x66, 2), 0);
+        Check.tell(x, "begin 1439");
+        Check.due("the last minute", x.end(0, 0x66, 2), 1439);
     }
 
     // ---- promise 18: know

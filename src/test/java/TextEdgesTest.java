@@ -134,6 +134,16 @@ public final class TextEdgesTest {
         Check.write(x, "begin 9");
         Check.due("nothing is left of it", x.day(), 1);
         Check.due("load", x.count(3), 40);
+        for (int i = 0; i < 2; i++) {
+            Check.write(x, "load 39;5555555555");
+            x.erase();
+            Check.write(x, "load 39");
+            Check.due("what stood behind it is not read", x.fault(), CarryUp.NONE);
+            Check.due("nor done", x.day(), 1);
+            Check.write(x, "load 3");
+            Check.due("nor behind a day", x.day(), 1);
+            Check.due("load", x.count(3), 3);
+        }
     }
 
     // ---- LINES
@@ -344,7 +354,7 @@ public final class TextEdgesTest {
             Check.due("all of none", x.sort(0, 1, 2), 0);
             Check.due("one of " + word, x.sort(0, 1, 3), bits);
         }
-        String[] wrong = {"i", "z", "ai", "ia", "abcdefghi", "aa", "hh", "aba", "abb", "baa", "abcdefgha", "abcdefghh", "A"};
+        String[] wrong = {"i", "z", "ai", "ia", "abcdefghi", "aa", "hh", "aba", "abb", "baa", "abcdefgha", "abcdefghh", "az", "za", "A", "`", "{"};
         for (String word : wrong) {
             fault("sort 0 1 0 " + word, 11);
             fault("sort 0 1 0 a or " + word, 16);
