@@ -134,6 +134,11 @@ public final class TextEdgesTest {
         Check.write(x, "begin 9");
         Check.due("nothing is left of it", x.day(), 1);
         Check.due("load", x.count(3), 40);
+        Check.write(x, "load 5");
+        x.erase();
+        Check.write(x, "load ");
+        Check.due("a number that was erased is not read", x.fault(), 5);
+        x.erase();
         for (int i = 0; i < 2; i++) {
             Check.write(x, "load 39;5555555555");
             x.erase();
