@@ -3,7 +3,6 @@ import java.lang.reflect.Field;
 import java.lang.reflect.Method;
 import java.lang.reflect.Modifier;
 import java.nio.file.Files;
-import java.nio.file.Path;
 import java.util.Arrays;
 import java.util.Map;
 import java.util.Set;
@@ -30,7 +29,9 @@ public final class LanguageTest {
         methods();
         fields();
         classes();
-        words(Files.readString(Path.of(args[0])));
+        String code = withoutComments(Files.readString(Source.file(args)));
+        words(code);
+        lengths(code);
         Check.end();
     }
 
@@ -39,12 +40,16 @@ public final class LanguageTest {
         for (Method m : CarryUp.class.getDeclaredMethods()) {
             String face = m.getName() + "(" + String.join(",", Arrays.stream(m.getParameterTypes()).map(Class::getName).toList()) + ")";
             boolean isPublic = m.getModifiers() == Modifier.PUBLIC;
-            boolean isPrivate = Modifier.isPrivate(m.getModifiers());
+            boolean isPrivate = Modifier.isPrivate(m.getModifiers()) && !bearsPublicName(m);
             yes("in the face or private: " + face, isPublic && m.getReturnType().getName().equals(FACE.get(face)) || isPrivate);
             missing.remove(face);
         }
         yes("missing: " + missing, missing.isEmpty());
         yes("one constructor", CarryUp.class.getDeclaredConstructors().length == 1);
+    }
+
+    private static boolean bearsPublicName(Method m) {
+        return FACE.keySet().stream().anyMatch(face -> face.startsWith(m.getName() + "("));
     }
 
     private static void fields() {
@@ -70,14 +75,31 @@ public final class LanguageTest {
             yes("twenty fields at most: " + c, fields <= 20);
             for (Method m : c.getDeclaredMethods()) {
                 yes("seven parameters at most: " + m, m.getParameterCount() <= 7);
-                boolean bears = FACE.keySet().stream().anyMatch(face -> face.startsWith(m.getName() + "("));
-                yes("no private method with a public one's name: " + m, !bears);
+                yes("no private method with a public one's name: " + m, !bearsPublicName(m));
             }
         }
     }
 
-    private static void words(String source) {
-        String code = source.replaceAll("(?s)/\\*.*?\\*/", "").replaceAll("//[^\n]*", "");
+    private static String withoutComments(String source) {
+        return source.replaceAll("(?s)/\\*.*?\\*/", "").replaceAll("//[^\n]*", "");
+    }
+
+    /** No method is longer than sixty lines: from its head to the brace that stands under its beginning. */
+    private static void lengths(String code) {
+        String[] lines = code.split("\n", -1);
+        int methods = 0;
+        for (int i = 0; i < lines.length; i++) {
+            if (!lines[i].matches(" {4}( {4})?[\\w\\[\\]]+ .*\\) \\{") || lines[i].contains(" class ")) continue;
+            String end = lines[i].replaceAll("\\S.*", "") + "}";
+            int k = i;
+            while (k < lines.length && !lines[k].equals(end)) k++;
+            yes("sixty lines at most: " + lines[i].trim(), k - i < 60);
+            methods++;
+        }
+        yes("all methods are looked at, some hundred: " + methods, methods > 100);
+    }
+
+    private static void words(String code) {
         Matcher m = Pattern.compile("\\b(import|package|throw|throws|try|catch|synchronized|assert|protected|native|volatile|yield|var)\\b|->|::|@|\\.class\\b").matcher(code);
         yes("no word that the language leaves out", !m.find());
         Matcher library = Pattern.compile("\\b(System|Arrays|Integer|Long|Math|Object|Thread|Character|List|ArrayList)\\.(\\w+)").matcher(code);

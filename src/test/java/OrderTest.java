@@ -6,8 +6,7 @@ import java.util.function.LongSupplier;
  * refused call nothing has changed; a call that is not to be refused is not.
  */
 public final class OrderTest {
-    private static final int UNKNOWN = CarryUp.UNKNOWN, OUTSIDE = CarryUp.OUTSIDE, FULL = CarryUp.FULL, NOT = CarryUp.NOT;
-    private static final int FINE = 0, LEAST = Integer.MIN_VALUE, MOST = Integer.MAX_VALUE;
+    private static final int FINE = Refusals.FINE, LEAST = Integer.MIN_VALUE, MOST = Integer.MAX_VALUE;
 
     private static final int[] THINGS = {LEAST, -1, 0, 7, 8, 256, MOST};
     private static final int[] PLACES = {LEAST, -1, 0, 5, 6, 36, MOST};
@@ -22,13 +21,12 @@ public final class OrderTest {
 
     private final String name;
     private final CarryUp x;
-    /** How many SORTS each CALL has, -1 if it is not told. */
-    private final int[] sorts;
+    private final Refusals refusals;
 
     private OrderTest(String name, CarryUp x, int... sorts) {
         this.name = name;
         this.x = x;
-        this.sorts = sorts;
+        refusals = new Refusals(sorts);
     }
 
     public static void main(String[] args) {
@@ -71,18 +69,6 @@ public final class OrderTest {
         askRun();
     }
 
-    /** The first of these that fits, FINE if none does. */
-    private static int first(int... refusals) {
-        for (int refusal : refusals) {
-            if (refusal != FINE) return refusal;
-        }
-        return FINE;
-    }
-
-    private static int unless(boolean fits, int refusal) {
-        return fits ? FINE : refusal;
-    }
-
     private void due(String what, LongSupplier call, int refusal) {
         if (refusal != FINE) Check.refused(x, name + ": " + what, call, refusal);
         else Check.yes(name + ": " + what + " is not refused", call.getAsLong() >= CarryUp.NONE);
@@ -93,59 +79,15 @@ public final class OrderTest {
         else Check.yes(name + ": " + what + " is not refused", Math.abs(call.getAsLong()) < 1L << 40);
     }
 
-    private static boolean within(int number, int least, int most) {
-        return least <= number && number <= most;
-    }
-
-    private boolean isTold(int call) {
-        return within(call, 0, 5) && sorts[call] >= 0;
-    }
-
-    private boolean hasSorts(int call) {
-        return within(call, 0, 5) && sorts[call] > 0;
-    }
-
-    private int sortRefusal(int call, int sort) {
-        return unless(isTold(call) && within(sort, 0, sorts[call] - 1), UNKNOWN);
-    }
-
-    private static int bagRefusal(int bag) {
-        return unless(within(bag, 0, 255), OUTSIDE);
-    }
-
-    private static int partRefusal(int part) {
-        return unless(within(part, 0, 1), OUTSIDE);
-    }
-
-    private int rowRefusal(int row, int n) {
-        if (!within(n, 1, 6)) return OUTSIDE;
-        for (int i = 0; i < n; i++) {
-            int stop = row >> 4 * i & 15;
-            if (stop != 6 && !hasSorts(stop)) return UNKNOWN;
-        }
-        return FINE;
-    }
-
-    private static int twiceRefusal(int row, int n) {
-        for (int i = 0; i < n; i++) {
-            for (int k = 0; k < i; k++) {
-                int stop = row >> 4 * i & 15;
-                if (stop != 6 && stop == (row >> 4 * k & 15)) return OUTSIDE;
-            }
-        }
-        return FINE;
-    }
-
     // ---- promises 2, 6 to 10, 22, 29
 
     private void askThings() {
         for (int thing : THINGS) {
             for (int what : WHATS) {
-                due("thing " + thing + " " + what, () -> x.thing(thing, what), first(unless(within(thing, 0, 7), UNKNOWN), unless(within(what, 0, 2), OUTSIDE)));
+                due("thing " + thing + " " + what, () -> x.thing(thing, what), Refusals.thing(thing, what));
             }
             for (int other : THINGS) {
-                boolean two = within(thing, 0, 7) && within(other, 0, 7) && thing != other;
-                due("stands " + thing + " " + other, () -> x.stands(thing, other), unless(two, UNKNOWN));
+                due("stands " + thing + " " + other, () -> x.stands(thing, other), Refusals.stands(thing, other));
             }
         }
         due("idle", x::idle, FINE);
@@ -154,26 +96,25 @@ public final class OrderTest {
     private void askDay() {
         for (int call : CALLS) {
             for (int what : WHATS) {
-                due("call " + call + " " + what, () -> x.call(call, what), first(unless(isTold(call), UNKNOWN), unless(within(what, 0, 6), OUTSIDE)));
+                due("call " + call + " " + what, () -> x.call(call, what), refusals.call(call, what));
                 for (int sort : SORTS) {
-                    due("sort " + call + " " + sort + " " + what, () -> x.sort(call, sort, what),
-                        first(sortRefusal(call, sort), unless(within(what, 0, 3), OUTSIDE)));
+                    due("sort " + call + " " + sort + " " + what, () -> x.sort(call, sort, what), refusals.sort(call, sort, what));
                 }
             }
         }
         for (int a : PLACES) {
-            for (int b : PLACES) due("way " + a + " " + b, () -> x.way(a, b), unless(within(a, 0, 5) && within(b, 0, 5), UNKNOWN));
+            for (int b : PLACES) due("way " + a + " " + b, () -> x.way(a, b), Refusals.way(a, b));
         }
-        for (int bag : BAGS) due("may " + bag, () -> x.may(bag), bagRefusal(bag));
-        for (int what : WHATS) due("count " + what, () -> x.count(what), unless(within(what, 0, 5), OUTSIDE));
+        for (int bag : BAGS) due("may " + bag, () -> x.may(bag), Refusals.may(bag));
+        for (int what : WHATS) due("count " + what, () -> x.count(what), Refusals.count(what));
     }
 
     private void askText() {
-        due("day of nothing", x::day, NOT);
+        due("day of nothing", x::day, CarryUp.NOT);
         for (int had : new int[] {0, 1, 191, 192, 193, 199, 200}) {
             for (int n : new int[] {LEAST, -1, 0, 1, 7, 8, 9, 256, MOST}) {
                 Check.write(x, " ".repeat(had));
-                due("write " + n + " behind " + had, () -> x.write(-1, n), first(unless(within(n, 1, 8), OUTSIDE), unless(had + n <= 200, FULL)));
+                due("write " + n + " behind " + had, () -> x.write(-1, n), Refusals.write(had, n));
                 x.erase();
             }
         }
@@ -185,11 +126,10 @@ public final class OrderTest {
         for (int bag : BAGS) {
             for (int call : CALLS) {
                 for (int sort : SORTS) {
-                    due("does " + bag + " " + call + " " + sort, () -> x.does(bag, call, sort), first(sortRefusal(call, sort), bagRefusal(bag)));
+                    due("does " + bag + " " + call + " " + sort, () -> x.does(bag, call, sort), refusals.does(bag, call, sort));
                 }
                 for (int part : PARTS) {
-                    due("chance " + bag + " " + call + " " + part, () -> x.chance(bag, call, part),
-                        first(unless(hasSorts(call), UNKNOWN), bagRefusal(bag), partRefusal(part)));
+                    due("chance " + bag + " " + call + " " + part, () -> x.chance(bag, call, part), refusals.chance(bag, call, part));
                 }
             }
         }
@@ -202,12 +142,11 @@ public final class OrderTest {
             for (int n : LENGTHS) {
                 for (int bag : BAGS) {
                     String what = bag + " " + Integer.toHexString(row) + " " + n;
-                    int refusal = first(rowRefusal(row, n), twiceRefusal(row, n), bagRefusal(bag));
-                    due("end " + what, () -> x.end(bag, row, n), refusal);
+                    due("end " + what, () -> x.end(bag, row, n), refusals.end(bag, row, n));
                     for (int part : PARTS) {
-                        int last = first(refusal, partRefusal(part));
-                        dueOfMean("mean " + what + " " + part, () -> x.mean(bag, row, n, part), last);
-                        due("all " + what + " " + part, () -> x.all(bag, row, n, part), last);
+                        int refusal = refusals.mean(bag, row, n, part);
+                        dueOfMean("mean " + what + " " + part, () -> x.mean(bag, row, n, part), refusal);
+                        due("all " + what + " " + part, () -> x.all(bag, row, n, part), refusal);
                     }
                 }
             }
@@ -218,18 +157,16 @@ public final class OrderTest {
         for (int row : ROWS) {
             for (int n : LENGTHS) {
                 String what = Integer.toHexString(row) + " " + n;
-                int refusal = first(rowRefusal(row, n), twiceRefusal(row, n));
-                due("best " + what, () -> x.best(row, n), refusal);
+                due("best " + what, () -> x.best(row, n), refusals.best(row, n));
                 for (int b : new int[] {LEAST, -1, 0, 1, 99, 100, MOST}) {
                     for (int a : new int[] {LEAST, -1, 0, 1, 2, 99, 100, MOST}) {
-                        int last = first(refusal, unless(within(b, 1, 99) && within(a, 0, b), OUTSIDE));
-                        due("sure " + what + " " + a + " " + b, () -> x.sure(row, n, a, b), last);
+                        due("sure " + what + " " + a + " " + b, () -> x.sure(row, n, a, b), refusals.sure(row, n, a, b));
                     }
                 }
             }
         }
         for (int n : LENGTHS) {
-            for (int what : WHATS) due("both " + n + " " + what, () -> x.both(n, what), unless(within(n, 1, 3) && within(what, 0, 1), OUTSIDE));
+            for (int what : WHATS) due("both " + n + " " + what, () -> x.both(n, what), Refusals.both(n, what));
         }
     }
 
@@ -237,12 +174,9 @@ public final class OrderTest {
         for (int row : ROWS) {
             for (int n : LENGTHS) {
                 for (int call : CALLS) {
-                    boolean isIn = false;
-                    for (int i = 0; i < Math.min(n, 6); i++) isIn |= (row >> 4 * i & 15) == call;
-                    int refusal = first(rowRefusal(row, n), unless(hasSorts(call) && isIn, UNKNOWN), twiceRefusal(row, n));
                     for (int part : PARTS) {
                         dueOfMean("know " + Integer.toHexString(row) + " " + n + " " + call + " " + part, () -> x.know(row, n, call, part),
-                            first(refusal, partRefusal(part)));
+                            refusals.know(row, n, call, part));
                     }
                 }
             }
@@ -260,15 +194,12 @@ public final class OrderTest {
     }
 
     private void askNow(int place, int minute, int set) {
-        boolean all = true;
-        for (int c = 0; c < 6; c++) all &= (set >> c & 1) == 0 || hasSorts(c);
-        int refusal = first(unless(within(place, 0, 5), UNKNOWN), unless(within(set, 0, 63), OUTSIDE), unless(all, UNKNOWN),
-            unless(Integer.bitCount(set) <= 4, OUTSIDE), unless(within(minute, 0, 1439), OUTSIDE));
         for (int bag : BAGS) {
             String what = place + " " + minute + " " + bag + " " + set;
-            due("next " + what, () -> x.next(place, minute, bag, set), first(refusal, bagRefusal(bag)));
+            due("next " + what, () -> x.next(place, minute, bag, set), refusals.next(place, minute, bag, set));
             for (int part : PARTS) {
-                dueOfMean("value " + what + " " + part, () -> x.value(place, minute, bag, set, part), first(refusal, bagRefusal(bag), partRefusal(part)));
+                dueOfMean("value " + what + " " + part, () -> x.value(place, minute, bag, set, part),
+                    refusals.value(place, minute, bag, set, part));
             }
         }
     }
@@ -276,14 +207,14 @@ public final class OrderTest {
     // ---- promises 24 to 28
 
     private void askBook() {
-        for (int set : BAGS) due("saved " + set, () -> x.saved(set), bagRefusal(set));
-        for (int k : WHATS) due("most " + k, () -> x.most(k), unless(within(k, 1, 3), OUTSIDE));
-        for (int what : WHATS) due("box " + what, () -> x.box(what), unless(within(what, 0, 1), OUTSIDE));
-        int full = unless(x.count(2) < 16, FULL);
+        for (int set : BAGS) due("saved " + set, () -> x.saved(set), Refusals.saved(set));
+        for (int k : WHATS) due("most " + k, () -> x.most(k), Refusals.most(k));
+        for (int what : WHATS) due("box " + what, () -> x.box(what), Refusals.box(what));
+        int visits = x.count(2);
         for (int call : CALLS) {
             for (int sort : SORTS) {
                 for (int bag : BAGS) {
-                    int refusal = first(sortRefusal(call, sort), bagRefusal(bag), full);
+                    int refusal = refusals.visit(visits, call, sort, bag);
                     // what is allowed is asked of a full book alone, so that no VISIT is written here
                     if (refusal != FINE) due("visit " + call + " " + sort + " " + bag, () -> x.visit(call, sort, bag), refusal);
                 }
@@ -295,11 +226,10 @@ public final class OrderTest {
         for (int row : ROWS) {
             for (int n : LENGTHS) {
                 for (int bag : new int[] {-1, 0, 255, 256}) {
-                    int refusal = first(rowRefusal(row, n), twiceRefusal(row, n), bagRefusal(bag));
                     for (int seed : new int[] {LEAST, -1, 0, 65535, 65536, MOST}) {
                         for (int what : new int[] {LEAST, -1, 0, 1, 2, 3, 4, MOST}) {
                             due("run " + seed + " " + bag + " " + Integer.toHexString(row) + " " + n + " " + what, () -> x.run(seed, bag, row, n, what),
-                                first(refusal, unless(within(seed, 0, 65535) && within(what, 0, 3), OUTSIDE)));
+                                refusals.run(seed, bag, row, n, what));
                         }
                     }
                 }
@@ -313,9 +243,9 @@ public final class OrderTest {
         CarryUp x = someCalls();
         String text = "thing b 9 9 tool;load 1;purse 1;begin 1;way 0 1 1;call 0 2 1 1 1 1 1;sort 1 1 1 a;call 5 1 0 0 0 0 0;load ";
         Check.write(x, text);
-        Check.refused(x, "day that ends too soon", x::day, NOT);
+        Check.refused(x, "day that ends too soon", x::day, CarryUp.NOT);
         Check.write(x, "401");
-        Check.refused(x, "day with a number out of its bounds", x::day, NOT);
+        Check.refused(x, "day with a number out of its bounds", x::day, CarryUp.NOT);
         Check.due("the text is still there", x.fault(), text.length());
         Check.due("all of it", x.erase(), text.length() + 3);
         Check.write(x, text);

@@ -100,6 +100,26 @@ final class Model {
         return bits;
     }
 
+    int thing(int thing, int what) {
+        return what == 0 ? weight[thing] : what == 1 ? price[thing] : tool[thing] ? 1 : 0;
+    }
+
+    int call(int call, int what) {
+        Call c = calls[call];
+        return new int[] {c.place, c.opens, c.shuts, c.worth, c.again, c.look, c.sorts.size()}[what];
+    }
+
+    int sort(int call, int sort, int what) {
+        Sort s = calls[call].sorts.get(sort);
+        return new int[] {s.likely, s.minutes, s.all, s.one}[what];
+    }
+
+    int callsTold() {
+        int told = 0;
+        for (Call call : calls) told += call == null ? 0 : 1;
+        return told;
+    }
+
     int weightOf(int bag) {
         int sum = 0;
         for (int t = 0; t < 8; t++) sum += in(bag, t) ? weight[t] : 0;
